@@ -602,15 +602,19 @@ public final class CubeNets {
     }
 
     private Kinds sorted() {
+        measured();
         if (!kinds.ready) {
-            kinds.collect(graph, measured());
+            kinds.collect(graph, metric);
         }
         return kinds;
     }
 
     private Seat seated() {
+        measured();
+        if (!kinds.ready) {
+            kinds.collect(graph, metric);
+        }
         if (!seat.ready) {
-            sorted();
             seat.settle(graph, metric, kinds);
         }
         return seat;
@@ -638,7 +642,7 @@ public final class CubeNets {
     }
 
     private boolean isHalf(int half) {
-        return half >= 0 && isDirection(half / 2);
+        return seated().sits && half >= 0 && half < 2 * seat.directions;
     }
 
     private boolean isSet(int nodes) {
@@ -716,8 +720,9 @@ public final class CubeNets {
             int other = draw(graph.nodes);
             switchLine(one, other);
         } else {
-            int kind = draw(Math.max(1, sorted().count));
-            if (isKind(kind)) {
+            int count = sorted().count;
+            int kind = draw(Math.max(1, count));
+            if (kind < count) {
                 pressKind(kind);
             }
         }
