@@ -438,6 +438,12 @@ public final class EdgesNets {
         for (int k = 0; k < grown.length; k++) Bench.due("cubes(" + k + ")", y.cubes(k), grown[k]);
         Bench.edge("III: all sides in these, like ones in others");
         Bench.due("a hexagon crosses, but has no ring of four", Bench.of(Bench.HEXAGON).cubes(2), 0);
+        for (int gone = 0; gone < 8; gone++) {
+            CubeNets z = Bench.of(Bench.CUBE);
+            z.drop(gone);
+            int[] corner = {7, 9, 3, 0};
+            for (int k = 0; k < 4; k++) Bench.due("cubes(" + k + ") of a cube less " + gone, z.cubes(k), corner[k]);
+        }
     }
 
     private static CubeNets cube(int directions) {
@@ -531,6 +537,13 @@ public final class EdgesNets {
         Bench.due("a star of three: three halves fit one another, one pair of them counts", Bench.of(Bench.STAR).few(), 2);
         Bench.due("a star of five", Bench.full(6, 5).few(), 3);
         Bench.due("a star of seven", Bench.full(8, 7).few(), 4);
+        Bench.edge("29: FEW asked of one net behind another");
+        CubeNets x = Bench.full(9, 8);
+        Bench.due("a star of 8", x.few(), 4);
+        for (int v = 8; v > 0; v--) {
+            x.drop(v);
+            Bench.due("a star of " + (v - 1), x.few(), v / 2);
+        }
         Bench.edge("29: NONE when the net SITS in no cube");
         for (String s : new String[] {Bench.TWO_PARTS, Bench.TRIANGLE, Bench.TWOTHREE}) Bench.none("few() of " + s, Bench.of(s).few());
     }

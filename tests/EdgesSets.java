@@ -275,6 +275,7 @@ public final class EdgesSets {
         CubeNets z = Bench.rich(Bench.TAIL);
         Bench.taken("0", Bench.bytes(z, 0, 0), CubeNets::see, 1);
         Bench.taken("23", Bench.bytes(z, 0, 23), CubeNets::see, 1);
+        Bench.taken("23, more rows", Bench.bytes(z, 0, 23, 4, 5, 1, 23), CubeNets::see, 3);
         Bench.refused("24", Bench.bytes(z, 0, 24), 1, CubeNets::see);
         Bench.refused("255", Bench.bytes(z, 0, 0, 0, 255), 1, CubeNets::see);
         Bench.edge("37: a NODE");

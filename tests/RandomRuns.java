@@ -30,12 +30,15 @@ public final class RandomRuns {
     private void tape(byte[] bytes) {
         for (int i = 0; i < bytes.length; i += 20) {
             int[] w = new int[5];
-            for (int k = 0; k < 20; k++) w[k / 4] = w[k / 4] << 8 | (i + k < bytes.length ? bytes[i + k] & 255 : 32);
+            for (int k = 0; k < 20; k++) w[k / 4] = w[k / 4] << 8 | (i + k < bytes.length ? bytes[i + k] & 255 : pad(k));
             same("feed(" + w[0] + "," + w[1] + "," + w[2] + "," + w[3] + "," + w[4] + ")",
                 x.feed(w[0], w[1], w[2], w[3], w[4]), m.feed(w[0], w[1], w[2], w[3], w[4]));
         }
         if (bytes.length % 20 != 0) same("end(" + bytes.length + ")", b(x.end(bytes.length)), b(m.end(bytes.length)));
     }
+
+    /** What end() takes off the tape again: bytes that would count if they were read. */
+    private static int pad(int k) { return ";,a \n;b\0".charAt(k % 8); }
 
     private static String name(int i) { return i < 20 ? "" + (char) (97 + i) : "n" + (char) (97 + i % 26) + "xy".substring(i % 2); }
 
@@ -44,7 +47,7 @@ public final class RandomRuns {
     private String text(int n, List<int[]> lines) {
         StringBuilder s = new StringBuilder(blank() + "nodes ");
         for (int i = 0; i < n; i++) s.append(i == 0 ? "" : ",").append(blank()).append(name(i)).append(blank());
-        s.append(";");
+        s.append(";").append(blank());
         for (int i = 0; i < lines.size(); ) {
             int[] l = lines.get(i++);
             s.append("way ").append(blank()).append(name(l[0])).append(blank()).append(",").append(name(l[1]));
